@@ -166,9 +166,7 @@ public final class PackedForest {
     }
 
     private Facts foundFacts() {
-        if (!facts.stand) {
-            facts.find();
-        }
+        facts.find();
         return facts;
     }
 
@@ -177,21 +175,6 @@ public final class PackedForest {
             states.find(now.grammar, now.struck);
         }
         return states;
-    }
-
-    private Levels foundLevels() {
-        foundStates();
-        if (!levels.stand) {
-            levels.find();
-        }
-        return levels;
-    }
-
-    private Forest foundForest() {
-        if (!forest.stand) {
-            forest.find();
-        }
-        return forest;
     }
 
     // ---- what there is
@@ -331,8 +314,10 @@ public final class PackedForest {
         if (noGrammar()) {
             return NONE;
         }
+        foundStates();
+        foundFacts();
         int clashing = 0;
-        for (int state = 0; state < foundStates().found; state++) {
+        for (int state = 0; state < states.found; state++) {
             if (hasClash(state)) {
                 clashing++;
             }
@@ -340,12 +325,13 @@ public final class PackedForest {
         return clashing;
     }
 
+    /** The states and the facts must have been found. */
     private boolean hasClash(int state) {
         int once = states.smallsFrom(state);
         for (int rule = 0; rule < now.grammar.rules; rule++) {
             int last = 1 << now.grammar.size[rule];
             if ((states.pointsOf(state, rule) & last) != 0) {
-                int behind = foundFacts().follow[now.grammar.left[rule] - FIRST_CAPITAL];
+                int behind = facts.follow[now.grammar.left[rule] - FIRST_CAPITAL];
                 if ((once & behind) != 0) {
                     return true;
                 }
@@ -476,33 +462,36 @@ public final class PackedForest {
         if (!isLevel(level)) {
             return NONE;
         }
-        if (state == NONE) {
-            return foundLevels().howManyAlive(level);
-        }
-        if (!isState(state)) {
+        if (state != NONE && !isState(state)) {
             return NONE;
         }
-        return foundLevels().isAlive(level, state) ? 1 : 0;
+        foundStates();
+        levels.find();
+        if (state == NONE) {
+            return levels.howManyAlive(level);
+        }
+        return levels.isAlive(level, state) ? 1 : 0;
     }
 
     public int links(int level, int state) {
         if (!isLevel(level)) {
             return NONE;
         }
-        if (state == NONE) {
-            return foundLevels().howManyLinks(level);
-        }
-        if (!isState(state)) {
+        if (state != NONE && !isState(state)) {
             return NONE;
         }
-        return foundLevels().linksOf(level, state);
+        foundStates();
+        levels.find();
+        return state == NONE ? levels.howManyLinks(level) : levels.linksOf(level, state);
     }
 
     public int expects(int level) {
         if (!isLevel(level)) {
             return NONE;
         }
-        return foundLevels().expected(level);
+        foundStates();
+        levels.find();
+        return levels.expected(level);
     }
 
     // ---- trees and the forest
@@ -531,7 +520,8 @@ public final class PackedForest {
         if (!isRule(rule) || !isSpan(m, n)) {
             return NONE;
         }
-        return foundForest().pieces[span(m, n)] >> rule & 1;
+        forest.find();
+        return forest.pieces[span(m, n)] >> rule & 1;
     }
 
     public int ways(int rule, int m, int n) {
@@ -546,10 +536,11 @@ public final class PackedForest {
         if (noGrammar() || what < 0 || what > 3) {
             return NONE;
         }
+        forest.find();
         if (what == 0) {
-            return foundForest().howManyPieces();
+            return forest.howManyPieces();
         }
-        foundForest().tally();
+        forest.tally();
         if (what == 1) {
             return forest.nodes;
         }
@@ -981,6 +972,9 @@ public final class PackedForest {
         }
 
         void find() {
+            if (stand) {
+                return;
+            }
             findShortRows();
             findReached();
             findFirsts();
@@ -1302,7 +1296,7 @@ public final class PackedForest {
 
         /** Rules with trees from m to n that may be below a capital at a place of a rule. */
         int rulesBelow(int rule, int place, int m, int n) {
-            return rulesAt(m, n) & fitting[rule * MOST_PLACES + place];
+            return rooted[span(m, n)] & fitting[rule * MOST_PLACES + place];
         }
 
         /** Where the symbol at a place of a rule can end that begins at m, n at most, as bits. */
@@ -1487,7 +1481,11 @@ public final class PackedForest {
             return smalls;
         }
 
+        /** The states must have been found. */
         void find() {
+            if (stand) {
+                return;
+            }
             plain.fill();
             Arrays.fill(linkCounts, 0);
             for (int k = 0; k < LEVELS * MOST_STATES; k++) {
@@ -1563,7 +1561,7 @@ public final class PackedForest {
             if (a == ENDLESS || b == ENDLESS) {
                 return ENDLESS;
             }
-            return Math.min(a + b, TOO_MANY);
+            return a + b < TOO_MANY ? a + b : TOO_MANY;
         }
 
         private static long product(long a, long b) {
@@ -1573,7 +1571,7 @@ public final class PackedForest {
             if (a == ENDLESS || b == ENDLESS) {
                 return ENDLESS;
             }
-            return Math.min(a * b, TOO_MANY);
+            return a * b < TOO_MANY ? a * b : TOO_MANY;
         }
 
         long howMany(int rules, int here) {
@@ -1854,6 +1852,9 @@ public final class PackedForest {
 
         /** From the longest spans to the shortest, as what is below a piece is never longer. */
         void find() {
+            if (stand) {
+                return;
+            }
             chart.fill();
             Arrays.fill(pieces, 0);
             int start = now.grammar.left[0] - FIRST_CAPITAL;
@@ -2042,7 +2043,7 @@ public final class PackedForest {
                     return n - m - 1;
                 }
             }
-            return Math.max(n - m, 1);
+            return n == m ? 1 : n - m;
         }
     }
 

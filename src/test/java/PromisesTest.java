@@ -47,6 +47,8 @@ public final class PromisesTest {
         seedAndSpoken();
         count();
         images();
+        askedBefore();
+        linksFirst();
         wrongEverywhere();
         System.out.println(asked + " answers, " + wrong + " of them wrong");
         if (wrong != 0) {
@@ -385,6 +387,8 @@ public final class PromisesTest {
         due(15, "clashes() of S=A;S=B;A=a;B=a", of("S=A;S=B;A=a;B=a", "").clashes(), 1);
         // Two ends that nothing can follow at once.
         due(15, "clashes() of S=Ab;S=Bc;A=a;B=a", of("S=Ab;S=Bc;A=a;B=a", "").clashes(), 0);
+        // A shift with the second of two ends alone.
+        due(15, "clashes() of a shift and two ends", of("S=Ab;S=Bc;S=ac;A=a;B=a", "").clashes(), 1);
         // One rule told twice.
         due(15, "clashes() of S=a;S=a", of("S=a;S=a", "").clashes(), 1);
         PackedForest g = of("S=a;S=a", "");
@@ -648,6 +652,9 @@ public final class PromisesTest {
         f.strike(1);
         due(28, "trees(S, 0, 0), not empty", f.trees(S, 0, 0), 0);
         due(28, "trees(S, 0, 1), not empty", f.trees(S, 0, 1), 1);
+        // A ring by the first place, though the second could be the whole, too.
+        due(28, "trees(S, 0, 0) with S=SA", of("S=SA;S=;A=", "").trees(S, 0, 0), -3);
+        due(28, "trees(S, 0, 0) with S=AS", of("S=AS;S=;A=", "").trees(S, 0, 0), -3);
         // A capital with an endless part below it.
         f = of("S=aA;A=A;A=b", "ab");
         due(28, "trees(S, 0, 2)", f.trees(S, 0, 2), -3);
@@ -975,6 +982,105 @@ public final class PromisesTest {
         due(40, "no states", f.states(), -1);
         due(40, "x of the new object", f.count(7), 0);
         due(40, "the others are there", f.back(1), 2);
+    }
+
+    /** What hangs on the text, the rules and the filters: asked, so that it may be kept. */
+    private static String all(PackedForest f) {
+        int n = f.count(2);
+        StringBuilder answers = new StringBuilder();
+        int[] each = {f.facts(0), f.facts(1), f.firsts(S), f.follows(S), f.shortest(S), f.states(), f.clashes(), f.alive(n, -1),
+            f.links(n, -1), f.expects(n), f.derives(S, 0, n), f.trees(S, 0, n), f.piece(0, 0, n), f.ways(0, 0, n),
+            f.forest(0), f.forest(1), f.forest(2), f.forest(3), f.smallest(), f.tree(0, 0), f.tree(1, 2), f.whole(), f.mend()};
+        for (int answer : each) {
+            answers.append(answer).append(' ');
+        }
+        return answers.toString();
+    }
+
+    private static void sameAs(int promise, PackedForest f, PackedForest fresh) {
+        String got = all(f);
+        String want = all(fresh);
+        due(promise, got + "(first is " + want + ")", got.equals(want) ? 1 : 0, 1);
+    }
+
+    /** What was asked before an act never shows in what is asked behind it. */
+    private static void askedBefore() {
+        String grammar = "S=SS:2<;S=a:1;S=b;S=A;A=ab:3";
+        PackedForest f = of(grammar, "abab");
+        all(f);
+        f.drop();
+        sameAs(17, f, of(grammar, "aba"));
+        f.drop();
+        f.read(0);
+        sameAs(16, f, of(grammar, "aba"));
+        f.drop();
+        f.drop();
+        f.read(0);
+        f.read(0);
+        sameAs(16, f, of(grammar, "aaa"));
+        f.change(1, 1);
+        sameAs(18, f, of(grammar, "aba"));
+        f.undo();
+        sameAs(22, f, of(grammar, "aaa"));
+        f.undo();
+        f.undo();
+        f.undo();
+        sameAs(22, f, of(grammar, "ab"));
+        f.undo();
+        f.undo();
+        f.undo();
+        sameAs(22, f, of(grammar, "aba"));
+        f.undo();
+        sameAs(22, f, of(grammar, "abab"));
+        askedBeforeActs(grammar, f);
+    }
+
+    private static void askedBeforeActs(String grammar, PackedForest f) {
+        for (int filter = 0; filter < 3; filter++) {
+            PackedForest fresh = of(grammar, "abab");
+            f.filter(filter);
+            fresh.filter(filter);
+            sameAs(21, f, fresh);
+            f.undo();
+            sameAs(22, f, of(grammar, "abab"));
+        }
+        PackedForest banned = of(grammar, "abab");
+        banned.ban(0, 0, 0);
+        f.ban(0, 0, 0);
+        sameAs(20, f, banned);
+        f.undo();
+        sameAs(22, f, of(grammar, "abab"));
+        PackedForest struck = of(grammar, "abab");
+        struck.strike(3);
+        f.strike(3);
+        sameAs(19, f, struck);
+        f.image(0);
+        f.undo();
+        sameAs(22, f, of(grammar, "abab"));
+        f.back(0);
+        sameAs(40, f, struck);
+        String other = "S=aS;S=b;B=";
+        tell(f, other);
+        sameAs(4, f, of(other, ""));
+        due(4, "no rank is left", f.rule(0, 2), 0);
+        due(4, "no side is left", f.rule(0, 3), 0);
+        readAll(f, "aab");
+        sameAs(16, f, of(other, "aab"));
+        f.back(0);
+        sameAs(40, f, struck);
+        for (int place = 0; place < 4; place++) {
+            due(40, "letter(" + place + ")", f.letter(place), place % 2);
+        }
+    }
+
+    private static void linksFirst() {
+        due(25, "links(2, -1), asked first", of("S=SS;S=a", "aa").links(2, -1), 3);
+        due(26, "expects(2), asked first", of("S=SS;S=a", "aa").expects(2), 1);
+        due(33, "tree(2, 1), asked first", of("S=SS;S=a", "aa").tree(2, 1), 1);
+        due(31, "forest(2), asked first", of("S=SS;S=a", "aaa").forest(2), 1);
+        due(29, "piece(1, 1, 2), asked first", of("S=SS;S=a", "aa").piece(1, 1, 2), 1);
+        due(30, "ways(0, 0, 2), asked first", of("S=SS;S=a", "aa").ways(0, 0, 2), 1);
+        due(14, "done(2), asked first", of("S=SS;S=a", "aa").done(2), 2);
     }
 
     /** Numbers from everywhere to every method, with a grammar and without: nothing is thrown. */
