@@ -74,7 +74,25 @@ public final class RandomRunsTest {
         return letters.charAt(random.nextInt(letters.length()));
     }
 
+    /** Rules whose one capital is their last symbol: such ones have states by the dozen. */
+    private String wideGrammarText() {
+        capitals = "SABCD".substring(0, 2 + random.nextInt(3));
+        smalls = "ab";
+        StringBuilder text = new StringBuilder();
+        for (int r = 0; r < 12; r++) {
+            text.append(r == 0 ? "" : ";").append(r < capitals.length() ? capitals.charAt(r) : pick(capitals)).append('=');
+            for (int k = random.nextInt(3); k >= 0; k--) {
+                text.append(pick(smalls));
+            }
+            text.append(random.nextInt(6) == 0 ? "" : "" + pick(capitals));
+        }
+        return text.toString();
+    }
+
     private String grammarText() {
+        if (longest != 12 && random.nextInt(12) == 0) {
+            return wideGrammarText();
+        }
         capitals = "SABCDEZ".substring(0, 1 + random.nextInt(random.nextInt(40) == 0 ? 7 : 5));
         smalls = random.nextInt(3) == 0 ? "abz" : "ab";
         int mostRules = longest == 12 ? 4 : random.nextInt(40) == 0 ? 13 : 12;
