@@ -149,7 +149,6 @@ public final class PackedForest {
         counts.columns = 0;
         sizes.columns = 0;
         forest.stand = false;
-        forest.tallied = false;
     }
 
     /** Columns up to that place hang on the letters ahead of it alone, so these still stand. */
@@ -162,7 +161,6 @@ public final class PackedForest {
         sizes.columns = Math.min(sizes.columns, stand);
         levels.stand = false;
         forest.stand = false;
-        forest.tallied = false;
     }
 
     private Facts foundFacts() {

@@ -321,6 +321,7 @@ public final class PromisesTest {
         due(9, "follows(A), ends or not", f.follows(A), set("ab"));
         due(9, "follows(Z)", f.follows(51), set("a"));
         f = of("S=AB;A=a;B=AA;B=", "");
+        due(9, "follows(C), by three rules", of("S=aAB;B=C;A=B;C=b;C=DB;D=", "").follows(28), set("b$"));
         due(9, "follows(A)", f.follows(A), set("a$"));
         due(9, "follows(B)", f.follows(B), set("$"));
         f.strike(0);
@@ -655,6 +656,8 @@ public final class PromisesTest {
         // A ring by the first place, though the second could be the whole, too.
         due(28, "trees(S, 0, 0) with S=SA", of("S=SA;S=;A=", "").trees(S, 0, 0), -3);
         due(28, "trees(S, 0, 0) with S=AS", of("S=AS;S=;A=", "").trees(S, 0, 0), -3);
+        // No ring, though what is below is counted only behind other rules.
+        due(28, "trees(S, 0, 0) with S=AB;A=C", of("S=AB;B=;A=C;C=", "").trees(S, 0, 0), 1);
         // A capital with an endless part below it.
         f = of("S=aA;A=A;A=b", "ab");
         due(28, "trees(S, 0, 2)", f.trees(S, 0, 2), -3);
@@ -1045,10 +1048,12 @@ public final class PromisesTest {
             sameAs(22, f, of(grammar, "abab"));
         }
         PackedForest banned = of(grammar, "abab");
-        banned.ban(0, 0, 0);
-        f.ban(0, 0, 0);
+        banned.ban(0, 0, 3);
+        f.ban(0, 0, 3);
         sameAs(20, f, banned);
+        due(28, "trees(S, 0, 4), banned", f.trees(S, 0, 4), 0);
         f.undo();
+        due(28, "trees(S, 0, 4), undone", f.trees(S, 0, 4), 1);
         sameAs(22, f, of(grammar, "abab"));
         PackedForest struck = of(grammar, "abab");
         struck.strike(3);
