@@ -6,6 +6,7 @@ public final class BoundaryTest {
         TextCases.add();
         TreesCases.add();
         DrawsCases.add();
+        AskedBeforeCases.add();
         if (Cases.run() != 0) {
             System.exit(1);
         }

@@ -211,6 +211,16 @@ final class DrawsCases {
         spokenDue("no RULE, of the START", "S=a", -2, 0);
         spokenDue("no RULE, of another one", "S=aA;A=b", -2, 1);
         spokenDue("no RULE of one that is not in the row", "S=a;A=b", 1, 1);
+        Cases.add(37, "25 are, though there is a shorter RULE", () -> {
+            // D is replaced by the 11th draw, which is odd; the 12th, which is even, is none of this row.
+            for (int x : new int[] {0, 3, 5, 8, 10}) {
+                PackedForest f = Cases.of("S=BBBD;B=CCa;C=aaa;D=;D=EEEE;E=");
+                f.seed(x);
+                Cases.due("spoken(1, -1) of x " + x, f.spoken(1, -1), -2);
+                Cases.tell(f, "S=BBBD;B=CCa;C=aaa;D=EEEE;D=;E=");
+                Cases.due("spoken(1, -1) of x " + x + ", the other way round", f.spoken(1, -1), 21);
+            }
+        });
         Cases.add(37, "the 24th SMALL", () -> {
             PackedForest f = Cases.of("S=AAAA;A=BBay;B=cc");
             Cases.due("spoken(1, 23)", f.spoken(1, 23), 24);
@@ -527,6 +537,15 @@ final class DrawsCases {
             Cases.due("the same answers", answers(f).equals(first) ? 1 : 0, 1);
             Cases.counts(f, 3, S, 3, 4, 1, 6, 6, 42, 0);
         });
+        Cases.add(38, "by what is refused nothing changes", () -> {
+            for (int odd : new int[] {-1, 12, 13, 52, 400, Cases.MIN, Cases.MAX}) {
+                PackedForest f = full();
+                String first = answers(f);
+                refused(f, odd);
+                Cases.due("the same answers behind " + odd, answers(f).equals(first) ? 1 : 0, 1);
+                Cases.counts(f, 3, S, 3, 4, 1, 6, 6, 42, 0);
+            }
+        });
         Cases.add(38, "512 calls", () -> {
             PackedForest f = Cases.of("S=SS;S=a");
             for (int k = 0; k < 250; k++) {
@@ -535,5 +554,21 @@ final class DrawsCases {
             }
             Cases.counts(f, 2, S, 12, 0, 0, 1, 20, 0, 0);
         });
+    }
+
+    /** Each call with a number that is none of a rule, a place, a state and so on. */
+    private static void refused(PackedForest f, int odd) {
+        int[] all = {
+            f.end(odd == -1 ? -1 : odd == Cases.MIN ? odd : 401), f.back(odd), f.image(odd), f.seed(odd < 0 ? odd : -1), f.filter(odd),
+            f.strike(odd), f.ban(odd, 0, 0), f.ban(0, odd, 0), f.ban(0, 0, odd), f.change(odd, 1), f.change(0, odd == 12 || odd == 13 ? 26 : odd),
+            f.read(odd == 12 || odd == 13 ? 26 : odd), f.derives(S, odd, 1), f.trees(S, 0, odd), f.piece(odd, 0, 0), f.ways(odd, 0, 0),
+            f.tree(0, odd), f.forest(odd), f.letter(odd), f.expects(odd), f.alive(odd, 0), f.links(odd, 0), f.count(odd), f.facts(odd),
+            f.goes(0, odd), f.points(0, odd), f.done(odd), f.rule(0, odd), f.symbol(odd, 0), f.firsts(odd), f.follows(odd), f.shortest(odd),
+        };
+        for (int k = 0; k < all.length; k++) {
+            boolean told = odd == 12 || odd == 13;
+            // The state 0 goes nowhere by the smalls 12 and 13.
+            Cases.due("call " + k + " with " + odd, all[k], told && k == 24 ? -2 : -1);
+        }
     }
 }

@@ -19,6 +19,7 @@ final class FactsCases {
         loops();
         recurs();
         facts();
+        smallsAreNoCapitals();
         firsts();
         follows();
         shortest();
@@ -141,6 +142,22 @@ final class FactsCases {
         });
     }
 
+    /** Whatever letter it is: a small is no capital of another number. */
+    private static void smallsAreNoCapitals() {
+        Cases.add(7, "a SMALL is no CAPITAL, nor EMPTY", () -> {
+            for (char small = 'a'; small <= 'z'; small++) {
+                for (int shift : new int[] {0, 6}) {
+                    char capital = (char) ('A' + (small - 'a' + shift) % 26);
+                    PackedForest f = Cases.of(capital + "=" + small + capital + small + ";" + capital + "=" + small);
+                    int[] wants = {0, 1, 1, 0, 0, 1};
+                    for (int what = 0; what < 6; what++) {
+                        Cases.due("facts(" + what + ") of " + capital + small, f.facts(what), wants[what] << (capital - 'A'));
+                    }
+                }
+            }
+        });
+    }
+
     // ---- 8 and 9
 
     private static void first(String sentence, String grammar, char capital, String want, int... struck) {
@@ -188,6 +205,8 @@ final class FactsCases {
         first("not behind one whose empty RULE is STRUCK", "S=Ab;A=a;A=", 'S', "a", 2);
         first("all its RULES STRUCK", "S=a", 'S', "", 0);
         first("through five", "S=A;A=B;B=C;C=D;D=d", 'S', "d");
+        first("through five, told ahead", "D=d;C=D;B=C;A=B;S=A", 'S', "d");
+        first("through one told between two", "S=A;A=a;S=b;A=S;A=c", 'S', "abc");
         noCapital(8);
     }
 
@@ -203,6 +222,10 @@ final class FactsCases {
         follow("one behind it that is not EMPTY", "S=ABc;A=a;B=b", 'A', "b");
         follow("what can FOLLOW the LEFT, too", "S=aSb;S=A;A=c", 'A', "b$");
         follow("what can FOLLOW the LEFT of its LEFT, too", "S=Bc;S=dBe;B=A;A=a", 'A', "ce");
+        follow("through four, told ahead of it", "S=z;C=D;B=C;A=B;S=Ax;D=d", 'D', "x");
+        follow("through one told ahead of two RULES", "S=z;A=B;C=D;S=Aa;S=Cb;B=b;D=d", 'B', "a");
+        follow("through one told ahead of one RULE with two", "S=z;A=B;C=D;S=AaCb;B=b;D=d", 'B', "a");
+        follow("through one told between two", "S=Aa;A=B;S=Ab;B=c", 'B', "ab");
         follow("at more than one PLACE of a RULE", "S=AaAb;A=c", 'A', "ab");
         follow("itself behind itself", "S=AA;A=a", 'A', "a$");
         follow("a RULE whose LEFT is not REACHED adds nothing", "S=Aa;A=c;B=Ab", 'A', "a");
@@ -351,6 +374,22 @@ final class FactsCases {
                 Cases.due("points(0, " + rule + ")", f.points(0, rule), 1);
             }
             Cases.due("points(0, 4)", f.points(0, 4), 0);
+        });
+        Cases.add(13, "CLOSED: through others, told ahead and behind, at STATE 0", () -> {
+            for (String grammar : new String[] {"A=B;B=C;C=D;D=E;E=e", "E=D;D=C;C=B;B=A;A=a", "C=A;A=E;E=B;B=D;D=d"}) {
+                PackedForest f = Cases.of(grammar);
+                for (int rule = 0; rule < 5; rule++) {
+                    Cases.due("points(0, " + rule + ") of " + grammar, f.points(0, rule), 1);
+                }
+            }
+        });
+        Cases.add(13, "CLOSED: through others, told ahead and behind, at the next STATE", () -> {
+            for (String grammar : new String[] {"S=aA;A=B;B=C;C=D;D=d", "S=aD;D=C;C=B;B=A;A=a", "S=aB;A=D;D=d;B=C;C=A"}) {
+                PackedForest f = Cases.of(grammar);
+                for (int rule = 1; rule < 5; rule++) {
+                    Cases.due("points(1, " + rule + ") of " + grammar, f.points(1, rule), 1);
+                }
+            }
         });
         Cases.add(13, "CLOSED: not behind an EMPTY CAPITAL", () -> {
             PackedForest f = Cases.of("S=AB;A=;B=b");

@@ -18,10 +18,28 @@ public final class SweepTest {
         this.longest = longest;
     }
 
+    /** Grammars and sentences as large as there can be: 12 rules, 4 places, 90 states, 12 smalls. */
+    private static final String[][] LARGEST = {
+        {"S=aS;A=bB;B=baC;C=babC;A=bbbB;C=aA;B=abbC;C=bbS;C=bC;S=bbbB;B=bbbB;S=abb", "bbbbabbabbba"},
+        {"S=baC;A=aB;B=baS;C=abA;S=aabC;A=baaA;A=aA;C=bbba;S=aaaA;S=abbS;A=bS;B=aA", "aabbbbaaaaab"},
+        {"S=aSbS:9!;S=SabS:8<;S=SSab:7>;S=abSS:6<;S=aabb:5;S=bbaa:4;S=aSSb:3!;S=bSSa:2;S=ab:1;S=ba:9;S=abab;S=baba", "abababbaabab"},
+        {"A=BCDE;B=AAAA;C=aaaa;D=bbbb;E=cccc;A=abcd;B=;C=a;D=b;E=c;A=a;B=bcde", "abcdbcdeabca"},
+        {"Z=zZyY;Y=yYzZ;Z=z;Y=y;Z=zyzy;Y=yzyz;Z=YYYY;Y=ZZZZ;X=XX;X=x;W=w;W=WXYZ", "zyzyzyzyzyzy"},
+    };
+
     public static void main(String[] args) {
         long seed = args.length > 0 ? Long.parseLong(args[0]) : 1;
         int sweeps = args.length > 1 ? Integer.parseInt(args[1]) : 400;
         long asked = 0;
+        for (String[] largest : LARGEST) {
+            SweepTest test = new SweepTest(seed, 12);
+            test.sweepOver(largest[0], largest[1]);
+            asked += test.asked;
+            if (!test.right) {
+                System.out.println(largest[0]);
+                System.exit(1);
+            }
+        }
         for (int k = 0; k < sweeps; k++) {
             SweepTest test = new SweepTest(seed * 7000003L + k, k % 10 == 0 ? 12 : k % 3 == 0 ? 7 : 5);
             test.sweep();
@@ -132,6 +150,17 @@ public final class SweepTest {
         }
     }
 
+    private void sweepOver(String grammar, String text) {
+        tell(grammar);
+        same("count(0)", forest.count(0), 12);
+        for (char c : text.toCharArray()) {
+            same("read", forest.read(c - 'a'), naive.read(c - 'a'));
+        }
+        same("count(2)", forest.count(2), 12);
+        askGrammar();
+        askText();
+    }
+
     private void sweep() {
         tell(grammarText());
         if (forest.count(0) == 0) {
@@ -200,7 +229,7 @@ public final class SweepTest {
     }
 
     private void askSpan(int m, int n) {
-        for (char c : "SABCDE".toCharArray()) {
+        for (char c : "SABCDEZYXW".toCharArray()) {
             int capital = c - 'A' + 26;
             String args = "(" + capital + ", " + m + ", " + n + ")";
             same("derives" + args, forest.derives(capital, m, n), naive.derives(capital, m, n));

@@ -205,6 +205,9 @@ final class TreesCases {
         treesDue("half of it", "S=P;P=PRa;P=;R=EEE;E=;E=", TEN, 1073741824);
         treesDue("half of it twice", "S=P;S=P;P=PRa;P=;R=EEE;E=;E=", TEN, -2);
         treesDue("2147483654 are", NEARLY + ";S=Q", TEN, -2);
+        treesDue("half of it five times", "S=P;S=P;S=P;S=P;S=P;P=PRa;P=;R=EEE;E=;E=", TEN, -2);
+        treesDue("7 ** 11", "S=AAAS;S=AA;A=a;A=a;A=a;A=a;A=a;A=a;A=a", "aaaaaaaaaaa", 1977326743);
+        treesDue("7 ** 12", "S=AAAS;S=;A=a;A=a;A=a;A=a;A=a;A=a;A=a", "aaaaaaaaaaaa", -2);
         treesDue("2 ** 32", "S=PEE;P=PRa;P=;R=EEE;E=;E=", TEN, -2);
         treesDue("2 ** 63", "S=PEEE;P=PRRa;P=;R=EEE;E=;E=", TEN, -2);
         treesDue("2 ** 64", "S=P;P=PRRa;P=;R=EEEE;E=;E=", "aaaaaaaa", -2);
@@ -424,6 +427,19 @@ final class TreesCases {
                 Cases.due("piece(" + rule + ", 0, 1)", f.piece(rule, 0, 1), 1);
             }
         });
+        Cases.add(29, "below one for all of its part, told ahead of it", () -> {
+            PackedForest f = Cases.of("S=z;B=b;A=B;S=A", "b");
+            int[] wants = {0, 1, 1, 1};
+            for (int rule = 0; rule < 4; rule++) {
+                Cases.due("piece(" + rule + ", 0, 1)", f.piece(rule, 0, 1), wants[rule]);
+            }
+        });
+        Cases.add(29, "below one for all of an empty row", () -> {
+            PackedForest f = Cases.of("S=A;A=BB;B=");
+            for (int rule = 0; rule < 3; rule++) {
+                Cases.due("piece(" + rule + ", 0, 0)", f.piece(rule, 0, 0), 1);
+            }
+        });
         Cases.add(29, "in a ring", () -> {
             PackedForest f = Cases.of("S=A;A=B;B=A;B=b", "b");
             for (int rule = 0; rule < 4; rule++) {
@@ -438,6 +454,17 @@ final class TreesCases {
             Cases.due("piece(3, 0, 0)", f.piece(3, 0, 0), 1);
             Cases.due("piece(3, 1, 1)", f.piece(3, 1, 1), 0);
             Cases.due("piece(3, 2, 2)", f.piece(3, 2, 2), 1);
+        });
+        Cases.add(29, "by places that fit to the end of another RULE", () -> {
+            PackedForest f = Cases.of("S=AB;A=a;A=CD;B=ab;B=b;C=a;C=aa;D=a", "aab");
+            Cases.due("piece(2, 0, 2)", f.piece(2, 0, 2), 1);
+            Cases.due("piece(5, 0, 1)", f.piece(5, 0, 1), 1);
+            Cases.due("piece(6, 0, 2)", f.piece(6, 0, 2), 0);
+        });
+        Cases.add(29, "an EMPTY one ahead of what does not fit then", () -> {
+            PackedForest f = Cases.of("S=CD;C=;C=a;D=a", "aa");
+            Cases.due("piece(1, 0, 0)", f.piece(1, 0, 0), 0);
+            Cases.due("piece(2, 0, 1)", f.piece(2, 0, 1), 1);
         });
     }
 
