@@ -1,3 +1,5 @@
+import java.util.function.Supplier;
+
 /** What was asked before an act never shows in what is answered behind it: promises 16 to 22, 4 and 40. */
 final class AskedBeforeCases {
     private static final int MOST_PIECES = 9;
@@ -13,6 +15,23 @@ final class AskedBeforeCases {
     interface Act {
         void on(PackedForest f);
     }
+
+    /** A call that changes nothing. */
+    interface Question {
+        int of(PackedForest f);
+    }
+
+    /** Each by itself, so that none is answered with the help of what another one worked out. */
+    private static final Question[] QUESTIONS = {
+        f -> f.facts(0), f -> f.facts(1), f -> f.facts(2), f -> f.facts(3), f -> f.facts(4), f -> f.firsts(44), f -> f.follows(44),
+        f -> f.shortest(44), f -> f.states(), f -> f.goes(0, 0), f -> f.goes(1, 1), f -> f.points(1, 0), f -> f.done(1), f -> f.done(2),
+        f -> f.clashes(), f -> f.letter(2), f -> f.alive(1, -1), f -> f.alive(f.count(2), -1), f -> f.alive(1, 2),
+        f -> f.links(1, -1), f -> f.links(f.count(2), -1), f -> f.links(1, 2), f -> f.expects(1), f -> f.expects(f.count(2)),
+        f -> f.derives(44, 0, f.count(2)), f -> f.derives(44, 1, 2), f -> f.trees(44, 0, f.count(2)), f -> f.trees(44, 1, 2),
+        f -> f.piece(0, 0, f.count(2)), f -> f.piece(1, 1, 2), f -> f.ways(0, 0, f.count(2)), f -> f.ways(1, 1, 2),
+        f -> f.forest(0), f -> f.forest(1), f -> f.forest(2), f -> f.forest(3), f -> f.smallest(), f -> f.tree(0, 0),
+        f -> f.tree(1, 2), f -> f.whole(), f -> f.mend(), f -> f.spoken(1, -1),
+    };
 
     static void add() {
         for (int g = 0; g < GRAMMARS.length; g++) {
@@ -69,6 +88,31 @@ final class AskedBeforeCases {
             f.undo();
             same(f, Cases.of(grammar, text));
         });
+        first(promise, "each asked first behind " + sentence + ": " + grammar, () -> {
+            PackedForest f = Cases.of(grammar, text);
+            everything(f);
+            act.on(f);
+            return f;
+        }, () -> {
+            PackedForest f = Cases.of(grammar, text);
+            act.on(f);
+            return f;
+        });
+        first(22, "each asked first behind " + sentence + ", UNDONE: " + grammar, () -> {
+            PackedForest f = Cases.of(grammar, text);
+            act.on(f);
+            everything(f);
+            f.undo();
+            return f;
+        }, () -> Cases.of(grammar, text));
+        first(40, "each asked first, gone back behind " + sentence + ": " + grammar, () -> {
+            PackedForest f = Cases.of(grammar, text);
+            f.image(0);
+            act.on(f);
+            everything(f);
+            f.back(0);
+            return f;
+        }, () -> Cases.of(grammar, text));
         Cases.add(40, "asked before it is gone back behind " + sentence + ": " + grammar, () -> {
             PackedForest f = Cases.of(grammar, text);
             f.image(1);
@@ -76,6 +120,15 @@ final class AskedBeforeCases {
             everything(f);
             f.back(1);
             same(f, Cases.of(grammar, text));
+        });
+    }
+
+    /** Each question as the first one behind the act. */
+    private static void first(int promise, String sentence, Supplier<PackedForest> asked, Supplier<PackedForest> fresh) {
+        Cases.add(promise, sentence, () -> {
+            for (int k = 0; k < QUESTIONS.length; k++) {
+                Cases.due("question " + k, QUESTIONS[k].of(asked.get()), QUESTIONS[k].of(fresh.get()));
+            }
         });
     }
 

@@ -70,6 +70,7 @@ final class FactsCases {
         fact("REACHED: the START, if it stands alone", "S=a;A=a", REACHED, "S");
         fact("REACHED: the START, if all its RULES are STRUCK", "S=A;A=a", REACHED, "S", 0);
         fact("REACHED: on the RIGHT side of a RULE whose LEFT is", "S=aaaA;A=B;B=b;C=C", REACHED, "SAB");
+        fact("REACHED: at two PLACES, and at four", "S=AA;A=BBBB;B=b", REACHED, "SAB");
         fact("REACHED: not by a RULE whose LEFT is not", "S=a;A=B;B=A", REACHED, "S");
         fact("REACHED: told behind the one it is reached from", "S=D;A=a;B=A;C=B;D=C", REACHED, "SABCD");
         fact("REACHED: not by a RULE that is STRUCK", "S=A;A=B;B=b", REACHED, "SA", 1);
@@ -193,6 +194,9 @@ final class FactsCases {
         first("the first SMALL alone", "S=abcd", 'S', "a");
         first("of a CAPITAL that stands first", "S=Ab;A=cd;A=e", 'S', "ce");
         first("CAPITALS that are EMPTY can be left out, three of them", "S=AAAb;A=a;A=", 'S', "ab");
+        first("one SMALL by both", "S=Aa;A=a;A=", 'S', "a");
+        first("one SMALL by both, told ahead", "A=a;A=;S=Aa", 'S', "a");
+        first("one SMALL by two CAPITALS", "S=AB;A=a;A=;B=a;B=", 'S', "a");
         first("all of them EMPTY", "S=AB;A=a;A=;B=b;B=", 'S', "ab");
         first("one that is not EMPTY can't be left out", "S=Ab;A=a", 'S', "a");
         first("behind one that is not EMPTY", "S=ABc;A=a;A=;B=b", 'S', "ab");
@@ -220,6 +224,8 @@ final class FactsCases {
         follow("EMPTY ones left out behind it, three of them", "S=ABBB;A=a;B=b;B=", 'A', "b$");
         follow("EMPTY ones left out ahead of a SMALL", "S=ABBc;A=a;B=b;B=", 'A', "bc");
         follow("one behind it that is not EMPTY", "S=ABc;A=a;B=b", 'A', "b");
+        follow("one SMALL by both", "S=Ab;A=CD;C=c;D=b;D=", 'C', "b");
+        follow("one SMALL at two PLACES", "S=AbAb;A=c", 'A', "b");
         follow("what can FOLLOW the LEFT, too", "S=aSb;S=A;A=c", 'A', "b$");
         follow("what can FOLLOW the LEFT of its LEFT, too", "S=Bc;S=dBe;B=A;A=a", 'A', "ce");
         follow("through four, told ahead of it", "S=z;C=D;B=C;A=B;S=Ax;D=d", 'D', "x");
@@ -486,6 +492,8 @@ final class FactsCases {
         clash("that it GOES by two SMALLS is no clash", "S=a;S=b", 0);
         clash("how many STATES, not how many SMALLS", "S=aA;S=aAb;S=aAc;A=d;A=db;A=dc", 1);
         clash("how many STATES", "S=Ab;A=a;A=ab;S=cB;B=dd;B=d;B=BB", 3);
+        clash("of 12 RULES with 4 SYMBOLS each", "S=abcd;".repeat(11) + "S=abcd", 1);
+        clash("of 90 STATES", "S=aS;A=bB;B=baC;C=babC;A=bbbB;C=aA;B=abbC;C=bbS;C=bC;S=bbbB;B=bbbB;S=abb", 4);
         clash("a SMALL a", "S=Aa;A=b;A=ba", 1);
         clash("a SMALL z", "S=Az;A=b;A=bz", 1);
         clash("not if it is STRUCK", "S=Ab;A=a;A=ab", 0, 2);

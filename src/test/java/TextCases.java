@@ -4,6 +4,7 @@ final class TextCases {
     private static final int S = 44;
     private static final String STRIKE_TO_91 = "S=bbbS;A=bbaA;B=aaA;S=abB;A=bbA;A=abaS;A=abA;S=abaA;B=ba;B=abA;B=aaB;A=babB";
     private static final String STRIKE_TO_90 = "S=baC;A=aB;B=baS;C=abA;S=aabC;A=baaA;A=aA;C=bbba;S=aaaA;S=abbS;A=bS;B=aA";
+    private static final String STATES_90 = "S=aS;A=bB;B=baC;C=babC;A=bbbB;C=aA;B=abbC;C=bbS;C=bC;S=bbbB;B=bbbB;S=abb";
     private static final int ACTS = 6;
 
     private TextCases() { }
@@ -635,6 +636,33 @@ final class TextCases {
             Cases.due("alive(2, -1)", f.alive(2, -1), 0);
             Cases.due("alive(2, 1)", f.alive(2, 1), 0);
         });
+        Cases.add(24, "of 90 STATES and 12 SMALLS", () -> {
+            PackedForest f = Cases.of(STATES_90, "aaaaaaaaaabb");
+            Cases.due("states()", f.states(), 90);
+            for (int level = 0; level <= 12; level++) {
+                // Behind all of it there are S=abb. (with S=bb.bB) and S=aS., this one by an S that begins at 1 to 9.
+                Cases.due("alive(" + level + ", -1)", f.alive(level, -1), level == 12 ? 2 : 1);
+                Cases.due("links(" + level + ", -1)", f.links(level, -1), level == 12 ? 10 : level == 0 ? 0 : 1);
+                Cases.due("expects(" + level + ")", f.expects(level), Cases.set(level < 11 ? "ab" : "b"));
+            }
+            int many = 0;
+            for (int state = 0; state < 90; state++) {
+                many += f.alive(12, state);
+            }
+            Cases.due("one by one", many, 2);
+        });
+        Cases.add(24, "of 90 STATES, all of them dead", () -> {
+            PackedForest f = Cases.of(STATES_90, "cccccccccccc");
+            Cases.due("alive(0, -1)", f.alive(0, -1), 1);
+            for (int level = 1; level <= 12; level++) {
+                Cases.due("alive(" + level + ", -1)", f.alive(level, -1), 0);
+                Cases.due("links(" + level + ", -1)", f.links(level, -1), 0);
+                Cases.due("expects(" + level + ")", f.expects(level), 0);
+            }
+            Cases.due("alive(0, 88)", f.alive(0, 88), 0);
+            Cases.due("alive(12, 89)", f.alive(12, 89), 0);
+            Cases.due("alive(12, 90)", f.alive(12, 90), -1);
+        });
         Cases.add(24, "NONE without a GRAMMAR", () -> {
             Cases.due("alive(0, 0)", new PackedForest().alive(0, 0), -1);
             Cases.due("alive(0, -1)", new PackedForest().alive(0, -1), -1);
@@ -774,6 +802,8 @@ final class TextCases {
             Cases.due("expects(1)", f.expects(1), Cases.set("ab"));
             Cases.due("expects(2)", f.expects(2), Cases.set("c"));
         });
+        Cases.add(26, "one SMALL of two STATES", () ->
+            Cases.due("expects(1)", Cases.of("S=Ab;S=ab;A=a", "a").expects(1), Cases.set("b")));
         Cases.add(26, "behind an EMPTY CAPITAL", () ->
             Cases.due("expects(0)", Cases.of("S=Ab;A=;A=a").expects(0), Cases.set("ab")));
         Cases.add(26, "none, at an end", () -> Cases.due("expects(1)", Cases.of("S=a", "a").expects(1), 0));

@@ -191,6 +191,24 @@ final class TreesCases {
             Cases.due("trees(S, 2, 2)", f.trees(S, 2, 2), 0);
             Cases.due("trees(S, 4, 5)", f.trees(S, 4, 5), 1);
         });
+        Cases.add(28, "RULES that are STRUCK are out of it", () -> {
+            PackedForest f = Cases.of("S=a;S=a;S=A;A=a;A=a", "a");
+            int[] left = {3, 2, 1, 0};
+            int[] struck = {0, 1, 3, 4};
+            for (int k = 0; k < 4; k++) {
+                f.strike(struck[k]);
+                Cases.due("trees(S, 0, 1), STRUCK " + struck[k], f.trees(S, 0, 1), left[k]);
+            }
+        });
+        Cases.add(28, "12 RULES with 4 SYMBOLS each", () -> {
+            PackedForest f = Cases.of("S=SSSS:1;".repeat(11) + "S=aaaa:1", "aaaaaaaaaaaa");
+            Cases.due("trees(S, 0, 12)", f.trees(S, 0, 12), 0);
+            Cases.due("trees(S, 4, 8)", f.trees(S, 4, 8), 1);
+            Cases.due("smallest()", f.smallest(), -2);
+            Cases.due("mend()", f.mend(), 4);
+            Cases.due("whole()", f.whole(), 4);
+            Cases.due("forest(0)", f.forest(0), 0);
+        });
         Cases.add(28, "of a CAPITAL that is not REACHED", () ->
             Cases.due("trees(B, 0, 1)", Cases.of("S=;B=b;B=b", "b").trees(B, 0, 1), 2));
     }
@@ -623,6 +641,8 @@ final class TreesCases {
         smallestDue("-2: of another CAPITAL there is one", "S=b;A=a", "a", -2);
         smallestDue("a ring is not gone round", "S=S;S=A;A=S;A=a", "a", 2);
         smallestDue("of fewest PIECES", "S=SS;S=aa;S=a", "aaaaa", 5);
+        smallestDue("of two the first told", "S=bA;A=a;A=B;B=a", "ba", 2);
+        smallestDue("of two the last told", "S=bA;A=B;B=a;A=a", "ba", 2);
         smallestDue("of twelve", "S=SS;S=a", "aaaaaaaaaaaa", 23);
         smallestDue("of many empty rows", "S=AAAA;A=BBBB;B=CCCC;C=DDDD;D=", "", 341);
         smallestDue("ALLOWED ones alone", "S=A:2;S=B;A=a:1;B=C;C=a", "a", 3);
@@ -776,6 +796,8 @@ final class TreesCases {
         mendDue("as many as the shortest row has", "S=AAAA;A=BBBB;B=CCCC;C=DDDD;D=aaaa", "", 1024);
         mendDue("of several rows the nearest, not the shortest", "S=a;S=bbbb", "bbb", 1);
         mendDue("through a ring", "S=A;A=S;A=ab", "b", 1);
+        mendDue("an EMPTY one at the end", "S=aA;A=", "a", 0);
+        mendDue("an EMPTY one between", "S=abAc;A=", "abc", 0);
         mendDue("EMPTY ones", "S=ABC;A=;A=a;B=b;C=;C=c", "c", 1);
         mendDue("-2: the START derives no row", "S=aS", "a", -2);
         mendDue("-2: the START derives no row, another one does", "S=aS;A=a", "a", -2);
