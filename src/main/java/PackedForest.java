@@ -367,7 +367,7 @@ public final class PackedForest {
         }
         int old = now.letters[place];
         now.remember(ACT_CHANGE, place << 5 | old);
-        now.letters[place] = small;
+        now.put(place, small);
         textChanged(place);
         return old;
     }
@@ -430,7 +430,7 @@ public final class PackedForest {
                 textChanged(now.length - 1);
                 break;
             case ACT_CHANGE:
-                now.letters[detail >> 5] = detail & 31;
+                now.put(detail >> 5, detail & 31);
                 textChanged(detail >> 5);
                 break;
             case ACT_STRIKE:
@@ -551,6 +551,7 @@ public final class PackedForest {
         }
         sizes.fill();
         long size = sizes.wholeSize();
+        // An int holds it: at most 276 pieces have letters, with three empty trees of 11 rules each.
         return size >= Sizes.NO_TREE ? REFUSED : (int) size;
     }
 
@@ -903,6 +904,12 @@ public final class PackedForest {
             }
         }
 
+        void put(int place, int small) {
+            if (place >= 0 && place < length) {
+                letters[place] = small;
+            }
+        }
+
         int pop() {
             if (length == 0) {
                 return NONE;
@@ -916,8 +923,10 @@ public final class PackedForest {
         }
 
         void toggleBan(int slot, int below) {
-            bans += isBan(slot, below) ? -1 : 1;
-            banned[slot] ^= 1 << below;
+            if (slot >= 0 && slot < SLOTS) {
+                bans += isBan(slot, below) ? -1 : 1;
+                banned[slot] ^= 1 << below;
+            }
         }
 
         boolean isForbidden(int rule, int place, int below) {
